@@ -25,7 +25,7 @@ public final class OracleTest {
   public static void main(String[] args) {
     int runs = args.length > 0 ? Integer.parseInt(args[0]) : 150;
     for (int seed = 0; seed < runs; seed++) {
-      if (seed % 6 == 5) {
+      if (seed % 12 == 5) {
         new Run(seed).goRound();
       } else {
         new Run(seed).go();
