@@ -297,6 +297,12 @@ public final class PromiseTest {
     due("a thirteenth corner", () -> add(x, 1, false, 4, 0, -15), STATE);
     x.hush();
     due("12 corners stay", () -> x.rows(1, 4), 12);
+    bowl(x, 2);
+    due("10 points and 2 rays have 11 sides", () -> x.rows(2, 1), 11);
+    due("11 points, 2 rays, 12 sides", () -> add(x, 2, false, 1, -8, 8), STATE);
+    x.hush();
+    due("10 points stay", () -> x.rows(2, 4), 10);
+    due("2 rays stay", () -> x.rows(2, 3), 2);
   }
 
   private static void combineBoth() {
@@ -394,9 +400,16 @@ public final class PromiseTest {
     due("too large", () -> x.combine(2, 0, 1, 0), LARGE);
     dueRows(x, 0, 4, 1, 16, 0);
     due("16 and 16", () -> x.combine(2, 0, 0, 3), LARGE);
+    x.set(0, false);
+    add(x, 0, false, 6, 3, 2);
+    x.set(2, false);
+    add(x, 2, false, 7, 1, 1);
+    due("small equalities, but a large point", () -> x.combine(2, 0, 2, 2), LARGE);
+    dueRows(x, 2, 4, 7, 1, 1);
     dueEmpty(x, 3);
     due("15 and 15", () -> x.combine(2, 1, 1, 3), 0);
     dueRows(x, 3, 4, 1, 30, 0);
+    x.set(2, false);
     rich(x, 0);
     box(x, 1, 0, 0, 1, 1);
     due("too rich a sum", () -> x.combine(2, 0, 1, 2), STATE);
@@ -472,6 +485,15 @@ public final class PromiseTest {
     due("too large back", () -> move(x, 0, true, 1, 7, 5, 3, -4, 0, 0), LARGE);
     x.hush();
     dueEmpty(x, 1);
+    x.set(0, true);
+    cut(x, 0, false, -10, 1, 0);
+    cut(x, 0, false, -9, 0, 1);
+    cut(x, 0, false, 20, -1, -1);
+    due("small points, but a large side", () -> move(x, 0, true, 1, 1, 0, 0, 1, 30, 30), LARGE);
+    x.hush();
+    dueEmpty(x, 1);
+    due("all small", () -> move(x, 0, true, 1, 1, 0, 0, 1, 25, 25), 2);
+    dueRows(x, 1, 1, -30, -1, -1, 16, 0, 1, 15, 1, 0);
   }
 
   private static void maximum() {
@@ -498,6 +520,25 @@ public final class PromiseTest {
     due("corner", () -> top(x, 0, 30, 30), 2);
     due("155", () -> x.greatest(0), 155);
     due("along the ray", () -> top(x, 0, -1, 30), 1);
+    x.set(1, false);
+    add(x, 1, false, 5, 4, 0);
+    add(x, 1, false, 6, 5, 0);
+    add(x, 1, false, 4, 3, 0);
+    due("5 / 6 is more than 4 / 5 and 3 / 4", () -> top(x, 1, 1, 0), 2);
+    due("5", () -> x.greatest(0), 5);
+    due("over 6", () -> x.greatest(1), 6);
+    x.set(1, false);
+    add(x, 1, false, 1, 0, 5);
+    add(x, 1, false, 2, 2, 9);
+    add(x, 1, false, 1, 1, 0);
+    due("5 is more than 9 / 2", () -> top(x, 1, 0, 1), 2);
+    due("5", () -> x.greatest(0), 5);
+    x.set(1, false);
+    add(x, 1, false, 6, 5, 0);
+    add(x, 1, false, 4, 3, 0);
+    due("-3 / 4 is more than -5 / 6", () -> top(x, 1, -2, 0), 2);
+    due("-3", () -> x.greatest(0), -3);
+    due("over 2", () -> x.greatest(1), 2);
     for (int slot : WRONG_SLOTS) {
       due("slot", () -> x.maximum(slot), INDEX);
     }
@@ -691,6 +732,11 @@ public final class PromiseTest {
     add(x, 0, false, 1, -1, 4);
     add(x, 0, false, 3, 1, 2);
     dueRows(x, 0, 4, 1, -1, 4, 3, 1, 2, 3, 1, 9, 2, 1, 1);
+    x.set(3, true);
+    cut(x, 3, true, -1, 2, 0);
+    cut(x, 3, false, -2, 0, 3);
+    cut(x, 3, false, 3, 0, -4);
+    dueRows(x, 3, 4, 6, 3, 4, 4, 2, 3);
     add(x, 1, false, 1, 0, 0);
     add(x, 1, false, 0, 1, 2);
     add(x, 1, false, 0, 1, -3);
@@ -756,6 +802,18 @@ public final class PromiseTest {
       add(x, slot, false, 1, atX, atY);
       atX += i < 6 ? sides[i][0] : -sides[i - 6][0];
       atY += i < 6 ? sides[i][1] : -sides[i - 6][1];
+    }
+  }
+
+  /** A bowl of ten corners and eleven sides, open above between two rays. */
+  private static void bowl(ConvexDesk x, int slot) {
+    int[] points = {0, 0, 3, 1, 5, 2, 6, 3, 7, 5, 8, 8, -3, 1, -5, 2, -6, 3, -7, 5};
+    x.set(slot, false);
+    add(x, slot, false, 1, points[0], points[1]);
+    add(x, slot, false, 0, -1, 4);
+    add(x, slot, false, 0, 1, 4);
+    for (int i = 2; i < points.length; i += 2) {
+      add(x, slot, false, 1, points[i], points[i + 1]);
     }
   }
 
