@@ -6,12 +6,16 @@ import java.util.List;
 import java.util.Random;
 
 /**
- * Long runs of chosen calls, each answered by ConvexDesk and by a slow model that follows the
- * document by trying all pairs of rows; every row of every slot is compared after every change.
+ * Runs of chosen calls, each answered by ConvexDesk and by a slow model that follows the document by
+ * trying all pairs of rows. After each change the counts of the slot's rows are compared, often the
+ * rows too, and at a run's end those of all slots. No object is used for more than 512 calls.
  */
 public final class OracleTest {
   private static final int LARGE = 1;
   private static final int RICH = 2;
+  private static final int MOST_CALLS = 512;
+  // A step makes fewer calls than this, and so does comparing one slot's rows.
+  private static final int CALLS_OF_A_STEP = 130;
 
   // The sides of a polygon with 16 corners, one behind the other.
   private static final int[][] SIDES = {
@@ -23,9 +27,9 @@ public final class OracleTest {
   private static final int[] outcomes = new int[3];
 
   public static void main(String[] args) {
-    int runs = args.length > 0 ? Integer.parseInt(args[0]) : 150;
+    int runs = args.length > 0 ? Integer.parseInt(args[0]) : 400;
     for (int seed = 0; seed < runs; seed++) {
-      if (seed % 12 == 5) {
+      if (seed % 6 == 5) {
         new Run(seed).goRound();
       } else {
         new Run(seed).go();
@@ -403,6 +407,8 @@ public final class OracleTest {
     final StringBuilder told = new StringBuilder();
     BigInteger[] greatest = null;
     final int spread;
+    int calls = 0;
+    boolean quick = false;
 
     Run(int seed) {
       this.seed = seed;
@@ -413,47 +419,78 @@ public final class OracleTest {
       spread = new int[] {1, 2, 3, 5, 30}[seed % 5];
     }
 
-    void go() {
-      int before = wrong;
-      for (int step = 0; step < 60 && wrong == before; step++) {
-        step();
-      }
-      if (wrong != before) {
-        System.out.println("seed " + seed + ":" + told);
-      }
+    ConvexDesk desk() {
+      calls++;
+      return desk;
     }
 
-    /** Slots 0 and 1 become polygons of ever more sides, out of which the others are made. */
+    boolean hasRoom() {
+      return calls + CALLS_OF_A_STEP <= MOST_CALLS;
+    }
+
+    void go() {
+      int before = wrong;
+      while (hasRoom() && wrong == before) {
+        step();
+      }
+      end(before);
+    }
+
+    /** Slots 0 and 1 become polygons of many sides, out of which the others are made. */
     void goRound() {
       int before = wrong;
       int[][] corners = corners();
       set(1, true);
-      for (int step = 0; step < 100 && wrong == before; step++) {
-        int[] here = corners[random.nextInt(corners.length)];
-        int turn = random.nextInt(SIDES.length);
-        int[] at = corners[turn];
-        int a = -SIDES[turn][1];
-        int b = SIDES[turn][0];
-        switch (random.nextInt(8)) {
-          case 0:
-          case 1:
-          case 2:
-            generate(0, false, 1, here[0], here[1]);
-            break;
-          case 3:
-          case 4:
-          case 5:
-            constrain(1, false, random.nextInt(2) - a * at[0] - b * at[1], a, b);
-            break;
-          case 6:
-            combine(random.nextInt(3), random.nextInt(4), random.nextInt(4), 2 + random.nextInt(2));
-            break;
-          default:
-            set(2, false);
-            generate(2, false, 1, 0, 0);
-            generate(2, false, 1, SIDES[turn][0], SIDES[turn][1]);
-            combine(2, 2, 3, random.nextInt(3) == 0 ? 0 : 3);
+      // One of the two comes first: both together would leave no calls for what is made of them.
+      boolean byCorners = random.nextBoolean();
+      quick = true;
+      for (int turn = 0; turn < corners.length; turn++) {
+        if (random.nextInt(8) == 0) {
+          continue;
         }
+        if (byCorners) {
+          generate(0, false, 1, corners[turn][0], corners[turn][1]);
+        } else {
+          constrainBeside(corners[turn], turn);
+        }
+      }
+      quick = false;
+      while (hasRoom() && wrong == before) {
+        stepRound(corners);
+      }
+      end(before);
+    }
+
+    void constrainBeside(int[] corner, int turn) {
+      int a = -SIDES[turn][1];
+      int b = SIDES[turn][0];
+      constrain(1, false, random.nextInt(2) - a * corner[0] - b * corner[1], a, b);
+    }
+
+    void stepRound(int[][] corners) {
+      int turn = random.nextInt(SIDES.length);
+      switch (random.nextInt(5)) {
+        case 0:
+          generate(0, false, 1, corners[turn][0], corners[turn][1]);
+          break;
+        case 1:
+          constrainBeside(corners[turn], turn);
+          break;
+        case 2:
+        case 3:
+          combine(random.nextInt(3), random.nextInt(4), random.nextInt(4), 2 + random.nextInt(2));
+          break;
+        default:
+          set(2, false);
+          generate(2, false, 1, 0, 0);
+          generate(2, false, 1, SIDES[turn][0], SIDES[turn][1]);
+          combine(2, 2, 3, random.nextInt(3) == 0 ? 0 : 3);
+      }
+    }
+
+    void end(int before) {
+      for (int slot = 0; slot < 4 && hasRoom(); slot++) {
+        compareRows(slot);
       }
       if (wrong != before) {
         System.out.println("seed " + seed + ":" + told);
@@ -462,7 +499,7 @@ public final class OracleTest {
 
     void set(int slot, boolean plane) {
       told.append(" set(" + slot + "," + plane + ")");
-      desk.set(slot, plane);
+      desk().set(slot, plane);
       slots[slot] = plane ? fromHalves(new ArrayList<>()) : new Model();
       compare(slot);
     }
@@ -500,13 +537,13 @@ public final class OracleTest {
       return random.nextInt(2 * spread + 1) - spread;
     }
 
+    /** What took the numbers before this has left none, or the first answer is not 1. */
     void say(int... all) {
-      desk.hush();
       numbers.clear();
       for (int n : all) {
         told.append(" " + n);
         numbers.add(n);
-        check("say", desk.say(n), numbers.size());
+        check("say", desk().say(n), numbers.size());
       }
     }
 
@@ -528,7 +565,7 @@ public final class OracleTest {
       told.append(" constrain(" + slot + "," + equality + ")");
       int got;
       try {
-        got = desk.constrain(slot, equality);
+        got = desk().constrain(slot, equality);
       } catch (ArithmeticException e) {
         got = -100 - LARGE;
       } catch (IllegalStateException e) {
@@ -560,7 +597,7 @@ public final class OracleTest {
       told.append(" generate(" + slot + "," + both + ")");
       int got;
       try {
-        got = desk.generate(slot, both);
+        got = desk().generate(slot, both);
       } catch (ArithmeticException e) {
         got = -100 - LARGE;
       } catch (IllegalStateException e) {
@@ -578,7 +615,7 @@ public final class OracleTest {
       Model due = combined(kind, slots[one], slots[other]);
       int got;
       try {
-        got = desk.combine(kind, one, other, to);
+        got = desk().combine(kind, one, other, to);
       } catch (ArithmeticException e) {
         got = -100 - LARGE;
       } catch (IllegalStateException e) {
@@ -662,7 +699,7 @@ public final class OracleTest {
       }
       int got;
       try {
-        got = desk.map(from, back, to);
+        got = desk().map(from, back, to);
       } catch (ArithmeticException e) {
         got = -100 - LARGE;
       } catch (IllegalStateException e) {
@@ -679,11 +716,13 @@ public final class OracleTest {
         slots[slot] = due;
       }
       compare(slot);
-      int left = takes && code == 0 ? 0 : numbers.size();
-      if (left < 6) {
-        check("numbers left after " + call, desk.say(0) - 1, left);
+      if (takes && code != 0) {
+        int left = numbers.size();
+        if (left < 6) {
+          check("numbers left after " + call, desk().say(0) - 1, left);
+        }
+        desk().hush();
       }
-      desk.hush();
       numbers.clear();
     }
 
@@ -693,7 +732,7 @@ public final class OracleTest {
           slots[other].empty()
               || !slots[slot].empty() && keepsAll(slots[slot].halves(), slots[other].makers());
       told.append(" includes(" + slot + "," + other + ")");
-      check("includes", desk.includes(slot, other) ? 1 : 0, within ? 1 : 0);
+      check("includes", desk().includes(slot, other) ? 1 : 0, within ? 1 : 0);
       say(1 + random.nextInt(3), near(), near());
       told.append(" has(" + slot + ")");
       boolean in =
@@ -701,18 +740,18 @@ public final class OracleTest {
               && keeps(
                   slots[slot].halves(),
                   triple(numbers.get(0), numbers.get(1), numbers.get(2)));
-      check("has", desk.has(slot) ? 1 : 0, in ? 1 : 0);
+      check("has", desk().has(slot) ? 1 : 0, in ? 1 : 0);
       say(near(), near());
       told.append(" maximum(" + slot + ")");
       int due = maximum(slot);
-      check("maximum", desk.maximum(slot), due);
+      check("maximum", desk().maximum(slot), due);
       if (due == 2) {
-        check("greatest(0)", desk.greatest(0), greatest[0].intValue());
-        check("greatest(1)", desk.greatest(1), greatest[1].intValue());
+        check("greatest(0)", desk().greatest(0), greatest[0].intValue());
+        check("greatest(1)", desk().greatest(1), greatest[1].intValue());
       } else {
         int thrown = 0;
         try {
-          desk.greatest(0);
+          desk().greatest(0);
         } catch (IllegalStateException e) {
           thrown = 1;
         }
@@ -753,16 +792,24 @@ public final class OracleTest {
     }
 
     void compare(int slot) {
-      check("dimension", desk.dimension(slot), slots[slot].dimension());
+      check("dimension", desk().dimension(slot), slots[slot].dimension());
+      for (int kind = 0; kind < 5; kind++) {
+        int due = slots[slot].kinds.get(kind).size();
+        check("rows(" + slot + "," + kind + ")", desk().rows(slot, kind), due);
+      }
+      if (!quick && hasRoom() && random.nextInt(4) == 0) {
+        compareRows(slot);
+      }
+    }
+
+    void compareRows(int slot) {
       for (int kind = 0; kind < 5; kind++) {
         List<BigInteger[]> due = slots[slot].kinds.get(kind);
-        int count = desk.rows(slot, kind);
-        check("rows(" + slot + "," + kind + ")", count, due.size());
-        for (int i = 0; i < Math.min(count, due.size()); i++) {
+        for (int i = 0; i < due.size() && wrong == 0; i++) {
           for (int j = 0; j < 3; j++) {
             check(
                 "row(" + slot + "," + kind + "," + i + "," + j + ")",
-                desk.row(slot, kind, i, j),
+                desk().row(slot, kind, i, j),
                 due.get(i)[j].longValueExact());
           }
         }
@@ -770,6 +817,9 @@ public final class OracleTest {
     }
 
     void check(String call, long got, long due) {
+      if (calls > MOST_CALLS) {
+        throw new IllegalStateException("more calls than the document allows");
+      }
       if (got != due) {
         wrong++;
         System.out.println("seed " + seed + ": " + call + " answered " + got + ", due is " + due);

@@ -1,22 +1,5 @@
-import java.util.Arrays;
-
 /** What each promise of the document asks: ordinary calls, the edges it names, and wrong calls. */
-public final class PromiseTest {
-  private static final String INDEX = "IndexOutOfBoundsException";
-  private static final String ARGUMENT = "IllegalArgumentException";
-  private static final String STATE = "IllegalStateException";
-  private static final String LARGE = "ArithmeticException";
-  private static final String NOT_YET = "UnsupportedOperationException";
-
-  private static final int[] WRONG_SLOTS = {-1, 4, Integer.MIN_VALUE, Integer.MAX_VALUE};
-
-  private static int wrong = 0;
-  private static String promise = "";
-
-  private interface Call {
-    Object answer();
-  }
-
+public final class PromiseTest extends Checks {
   public static void main(String[] args) {
     newObject();
     say();
@@ -44,16 +27,13 @@ public final class PromiseTest {
     row();
     rowForms();
     rowOrder();
-    System.out.println(wrong == 0 ? "all answers are as due" : wrong + " answers are not as due");
-    if (wrong != 0) {
-      System.exit(1);
-    }
+    finish();
   }
 
   // ---------------------------------------------------------------- the promises
 
   private static void newObject() {
-    promise = "1 a new object";
+    about("promise 1 a new object");
     ConvexDesk x = new ConvexDesk();
     for (int slot = 0; slot < 4; slot++) {
       final int at = slot;
@@ -65,7 +45,7 @@ public final class PromiseTest {
   }
 
   private static void say() {
-    promise = "2 say";
+    about("promise 2 say");
     ConvexDesk x = new ConvexDesk();
     due("31", () -> x.say(31), ARGUMENT);
     due("-31", () -> x.say(-31), ARGUMENT);
@@ -80,7 +60,7 @@ public final class PromiseTest {
   }
 
   private static void hush() {
-    promise = "3 hush";
+    about("promise 3 hush");
     ConvexDesk x = new ConvexDesk();
     x.hush();
     tell(x, 1, 2, 3, 4, 5, 6);
@@ -89,7 +69,7 @@ public final class PromiseTest {
   }
 
   private static void set() {
-    promise = "4 set";
+    about("promise 4 set");
     ConvexDesk x = new ConvexDesk();
     tell(x, 1, 2);
     x.set(3, true);
@@ -106,13 +86,13 @@ public final class PromiseTest {
     x.set(3, false);
     dueEmpty(x, 3);
     for (int slot : WRONG_SLOTS) {
-      due("slot", () -> run(() -> x.set(slot, true)), INDEX);
-      due("slot", () -> run(() -> x.set(slot, false)), INDEX);
+      due("slot", () -> set(x, slot, true), INDEX);
+      due("slot", () -> set(x, slot, false), INDEX);
     }
   }
 
   private static void constrain() {
-    promise = "5 constrain";
+    about("promise 5 constrain");
     ConvexDesk x = new ConvexDesk();
     x.set(0, true);
     due("half-plane", () -> cut(x, 0, false, -30, 4, 2), 2);
@@ -149,7 +129,7 @@ public final class PromiseTest {
   }
 
   private static void constrainEdges() {
-    promise = "5 constrain, edges";
+    about("promise 5 constrain, edges");
     ConvexDesk x = new ConvexDesk();
     x.set(0, true);
     due("0 is not below 0", () -> cut(x, 0, false, 0, 0, 0), 2);
@@ -176,7 +156,7 @@ public final class PromiseTest {
   }
 
   private static void constrainRefused() {
-    promise = "5 constrain, refused";
+    about("promise 5 constrain, refused");
     ConvexDesk x = new ConvexDesk();
     x.set(1, true);
     for (int slot : WRONG_SLOTS) {
@@ -215,7 +195,7 @@ public final class PromiseTest {
   }
 
   private static void generate() {
-    promise = "6 generate";
+    about("promise 6 generate");
     ConvexDesk x = new ConvexDesk();
     due("point", () -> add(x, 2, false, 6, 4, -8), 0);
     dueRows(x, 2, 4, 3, 2, -4);
@@ -245,7 +225,7 @@ public final class PromiseTest {
   }
 
   private static void generateEdges() {
-    promise = "6 generate, edges";
+    about("promise 6 generate, edges");
     ConvexDesk x = new ConvexDesk();
     add(x, 0, false, 1, 0, 0);
     due("a line on both sides", () -> add(x, 0, true, 0, -2, 4), 1);
@@ -264,7 +244,7 @@ public final class PromiseTest {
   }
 
   private static void generateRefused() {
-    promise = "6 generate, refused";
+    about("promise 6 generate, refused");
     ConvexDesk x = new ConvexDesk();
     for (int slot : WRONG_SLOTS) {
       due("slot", () -> x.generate(slot, false), INDEX);
@@ -306,7 +286,7 @@ public final class PromiseTest {
   }
 
   private static void combineBoth() {
-    promise = "7 combine, both";
+    about("promise 7 combine, both");
     ConvexDesk x = new ConvexDesk();
     box(x, 0, 0, 0, 4, 4);
     box(x, 1, 2, 3, 6, 7);
@@ -333,7 +313,7 @@ public final class PromiseTest {
   }
 
   private static void combineHull() {
-    promise = "7 combine, hull";
+    about("promise 7 combine, hull");
     ConvexDesk x = new ConvexDesk();
     due("of nothing", () -> x.combine(1, 0, 1, 2), -1);
     box(x, 0, 0, 0, 1, 1);
@@ -353,7 +333,7 @@ public final class PromiseTest {
   }
 
   private static void combineSum() {
-    promise = "7 combine, sum";
+    about("promise 7 combine, sum");
     ConvexDesk x = new ConvexDesk();
     add(x, 0, false, 2, 1, 1);
     add(x, 1, false, 3, 1, 2);
@@ -384,7 +364,7 @@ public final class PromiseTest {
   }
 
   private static void combineRefused() {
-    promise = "7 combine, refused";
+    about("promise 7 combine, refused");
     ConvexDesk x = new ConvexDesk();
     for (int slot : WRONG_SLOTS) {
       due("one", () -> x.combine(0, slot, 0, 0), INDEX);
@@ -417,7 +397,7 @@ public final class PromiseTest {
   }
 
   private static void mapForth() {
-    promise = "8 map";
+    about("promise 8 map");
     ConvexDesk x = new ConvexDesk();
     box(x, 0, 0, 0, 2, 1);
     due("turned and moved", () -> move(x, 0, false, 1, 0, -1, 1, 0, 5, 7), 2);
@@ -441,7 +421,7 @@ public final class PromiseTest {
   }
 
   private static void mapBack() {
-    promise = "8 map back";
+    about("promise 8 map back");
     ConvexDesk x = new ConvexDesk();
     box(x, 0, 0, 0, 2, 1);
     due("halved", () -> move(x, 0, true, 1, 2, 0, 0, 2, 0, 0), 2);
@@ -467,7 +447,7 @@ public final class PromiseTest {
   }
 
   private static void mapRefused() {
-    promise = "8 map, refused";
+    about("promise 8 map, refused");
     ConvexDesk x = new ConvexDesk();
     for (int slot : WRONG_SLOTS) {
       due("from", () -> x.map(slot, false, 0), INDEX);
@@ -497,7 +477,7 @@ public final class PromiseTest {
   }
 
   private static void maximum() {
-    promise = "9 maximum";
+    about("promise 9 maximum");
     ConvexDesk x = new ConvexDesk();
     due("of nothing", () -> top(x, 0, 1, 1), 0);
     due("takes the numbers", () -> x.say(0), 1);
@@ -550,7 +530,7 @@ public final class PromiseTest {
   }
 
   private static void greatest() {
-    promise = "10 greatest";
+    about("promise 10 greatest");
     ConvexDesk x = new ConvexDesk();
     due("none yet", () -> x.greatest(0), STATE);
     due("none yet, and no such i", () -> x.greatest(2), STATE);
@@ -576,7 +556,7 @@ public final class PromiseTest {
   }
 
   private static void has() {
-    promise = "11 has";
+    about("promise 11 has");
     ConvexDesk x = new ConvexDesk();
     box(x, 0, 0, 0, 2, 1);
     due("corner", () -> in(x, 0, 1, 2, 1), true);
@@ -606,7 +586,7 @@ public final class PromiseTest {
   }
 
   private static void includes() {
-    promise = "12 includes";
+    about("promise 12 includes");
     ConvexDesk x = new ConvexDesk();
     due("nothing nothing", () -> x.includes(0, 1), true);
     box(x, 0, 0, 0, 4, 4);
@@ -638,7 +618,7 @@ public final class PromiseTest {
   }
 
   private static void dimension() {
-    promise = "13 dimension";
+    about("promise 13 dimension");
     ConvexDesk x = new ConvexDesk();
     due("nothing", () -> x.dimension(0), -1);
     add(x, 0, false, 1, 1, 1);
@@ -653,7 +633,7 @@ public final class PromiseTest {
   }
 
   private static void rows() {
-    promise = "14 rows";
+    about("promise 14 rows");
     ConvexDesk x = new ConvexDesk();
     add(x, 0, false, 1, 0, 0);
     add(x, 0, false, 0, 1, 0);
@@ -672,7 +652,7 @@ public final class PromiseTest {
   }
 
   private static void row() {
-    promise = "15 row";
+    about("promise 15 row");
     ConvexDesk x = new ConvexDesk();
     x.set(0, true);
     due("line", () -> x.row(0, 2, 1, 2), 1);
@@ -699,7 +679,7 @@ public final class PromiseTest {
   }
 
   private static void rowForms() {
-    promise = "terms, the form of the rows";
+    about("terms, the form of the rows");
     ConvexDesk x = new ConvexDesk();
     x.set(0, true);
     cut(x, 0, true, 6, 0, -4);
@@ -725,7 +705,7 @@ public final class PromiseTest {
   }
 
   private static void rowOrder() {
-    promise = "terms, the order of the rows";
+    about("terms, the order of the rows");
     ConvexDesk x = new ConvexDesk();
     add(x, 0, false, 2, 1, 1);
     add(x, 0, false, 3, 1, 9);
@@ -749,106 +729,5 @@ public final class PromiseTest {
     cut(x, 2, false, 4, -1, 1);
     cut(x, 2, false, 4, 1, -1);
     dueRows(x, 2, 1, 9, -1, -1, 4, -1, 1, 3, 0, 1, 4, 1, -1, 2, 1, 0);
-  }
-
-  // ---------------------------------------------------------------- calls in short
-
-  private static void tell(ConvexDesk x, int... numbers) {
-    for (int number : numbers) {
-      x.say(number);
-    }
-  }
-
-  private static int cut(ConvexDesk x, int slot, boolean equality, int c, int a, int b) {
-    tell(x, c, a, b);
-    return x.constrain(slot, equality);
-  }
-
-  private static int add(ConvexDesk x, int slot, boolean both, int g, int atX, int atY) {
-    tell(x, g, atX, atY);
-    return x.generate(slot, both);
-  }
-
-  private static int move(ConvexDesk x, int from, boolean back, int to, int... six) {
-    tell(x, six);
-    return x.map(from, back, to);
-  }
-
-  private static int top(ConvexDesk x, int slot, int a, int b) {
-    tell(x, a, b);
-    return x.maximum(slot);
-  }
-
-  private static boolean in(ConvexDesk x, int slot, int g, int atX, int atY) {
-    tell(x, g, atX, atY);
-    return x.has(slot);
-  }
-
-  private static void box(ConvexDesk x, int slot, int left, int low, int right, int high) {
-    x.set(slot, true);
-    cut(x, slot, false, -left, 1, 0);
-    cut(x, slot, false, right, -1, 0);
-    cut(x, slot, false, -low, 0, 1);
-    cut(x, slot, false, high, 0, -1);
-  }
-
-  /** A polygon of twelve sides with twelve whole corners. */
-  private static void rich(ConvexDesk x, int slot) {
-    int[][] sides = {{2, 1}, {1, 1}, {1, 2}, {-1, 2}, {-1, 1}, {-2, 1}};
-    x.set(slot, false);
-    int atX = -1;
-    int atY = -4;
-    for (int i = 0; i < 12; i++) {
-      add(x, slot, false, 1, atX, atY);
-      atX += i < 6 ? sides[i][0] : -sides[i - 6][0];
-      atY += i < 6 ? sides[i][1] : -sides[i - 6][1];
-    }
-  }
-
-  /** A bowl of ten corners and eleven sides, open above between two rays. */
-  private static void bowl(ConvexDesk x, int slot) {
-    int[] points = {0, 0, 3, 1, 5, 2, 6, 3, 7, 5, 8, 8, -3, 1, -5, 2, -6, 3, -7, 5};
-    x.set(slot, false);
-    add(x, slot, false, 1, points[0], points[1]);
-    add(x, slot, false, 0, -1, 4);
-    add(x, slot, false, 0, 1, 4);
-    for (int i = 2; i < points.length; i += 2) {
-      add(x, slot, false, 1, points[i], points[i + 1]);
-    }
-  }
-
-  // ---------------------------------------------------------------- what is due
-
-  private static Object run(Runnable call) {
-    call.run();
-    return 0;
-  }
-
-  private static void due(String what, Call call, Object want) {
-    Object got;
-    try {
-      got = call.answer();
-    } catch (RuntimeException e) {
-      got = e.getClass().getSimpleName();
-    }
-    if (!want.equals(got)) {
-      wrong++;
-      System.out.println("promise " + promise + ": " + what + ": " + got + ", due is " + want);
-    }
-  }
-
-  private static void dueRows(ConvexDesk x, int slot, int kind, int... want) {
-    int[] got = new int[3 * x.rows(slot, kind)];
-    for (int i = 0; i < got.length; i++) {
-      got[i] = x.row(slot, kind, i / 3, i % 3);
-    }
-    due("rows of kind " + kind, () -> Arrays.toString(got), Arrays.toString(want));
-  }
-
-  private static void dueEmpty(ConvexDesk x, int slot) {
-    due("empty", () -> x.dimension(slot), -1);
-    for (int kind = 0; kind < 5; kind++) {
-      dueRows(x, slot, kind);
-    }
   }
 }
