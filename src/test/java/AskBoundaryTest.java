@@ -478,7 +478,7 @@ public final class AskBoundaryTest extends Checks {
     for (int kind : new int[] {-1, 5, Integer.MIN_VALUE, Integer.MAX_VALUE}) {
       for (int i : new int[] {0, 11, 12, Integer.MAX_VALUE}) {
         refused("kind " + kind, ARGUMENT, Checks::someSets, x -> x.row(1, kind, i, 2));
-        refused("kind " + kind + " of nothing", ARGUMENT, Checks::someSets, x -> x.row(3, kind, i, 0));
+        refused("kind " + kind + ", nothing", ARGUMENT, Checks::someSets, x -> x.row(3, kind, i, 0));
       }
     }
   }

@@ -234,7 +234,8 @@ public final class ChangeBoundaryTest extends Checks {
   private static void constrainNoSlot() {
     about("promise 5: there is no such slot");
     for (int slot : WRONG_SLOTS) {
-      refused("three", INDEX, x -> { someSets(x); tell(x, 1, 2, 3); }, x -> x.constrain(slot, true));
+      Steps before = x -> { someSets(x); tell(x, 1, 2, 3); };
+      refused("three", INDEX, before, x -> x.constrain(slot, true));
       refused("none", INDEX, Checks::someSets, x -> x.constrain(slot, false));
     }
   }
@@ -308,8 +309,10 @@ public final class ChangeBoundaryTest extends Checks {
   private static void generateNoSlot() {
     about("promise 6: there is no such slot");
     for (int slot : WRONG_SLOTS) {
-      refused("point", INDEX, x -> { someSets(x); tell(x, 1, 2, 3); }, x -> x.generate(slot, false));
-      refused("line", INDEX, x -> { someSets(x); tell(x, 0, 2, 3); }, x -> x.generate(slot, true));
+      Steps point = x -> { someSets(x); tell(x, 1, 2, 3); };
+      refused("point", INDEX, point, x -> x.generate(slot, false));
+      Steps line = x -> { someSets(x); tell(x, 0, 2, 3); };
+      refused("line", INDEX, line, x -> x.generate(slot, true));
     }
   }
 
@@ -424,10 +427,10 @@ public final class ChangeBoundaryTest extends Checks {
     someSets(x);
     x.set(0, true);
     for (int slot = 0; slot < 3; slot++) {
-      dueCombined(x, 0, slot, 3, -1);
-      dueCombined(x, 0, 3, slot, -1);
+      dueNothing(x, 0, slot, 3);
+      dueNothing(x, 0, 3, slot);
     }
-    dueCombined(x, 0, 3, 3, -1);
+    dueNothing(x, 0, 3, 3);
   }
 
   private static void combineHullWithNothing() {
@@ -457,15 +460,16 @@ public final class ChangeBoundaryTest extends Checks {
     someSets(x);
     x.set(0, true);
     for (int slot = 0; slot < 3; slot++) {
-      dueCombined(x, 2, slot, 3, -1);
-      dueCombined(x, 2, 3, slot, -1);
+      dueNothing(x, 2, slot, 3);
+      dueNothing(x, 2, 3, slot);
     }
-    dueCombined(x, 2, 3, 3, -1);
+    dueNothing(x, 2, 3, 3);
   }
 
   /** An empty result goes into the empty slot 3, so that the others stay for the next call. */
-  private static void dueCombined(ConvexDesk x, int kind, int one, int other, int dimension) {
-    due("kind " + kind + " of " + one + ", " + other, () -> x.combine(kind, one, other, 3), dimension);
+  private static void dueNothing(ConvexDesk x, int kind, int one, int other) {
+    String what = "kind " + kind + " of " + one + ", " + other;
+    due(what, () -> x.combine(kind, one, other, 3), -1);
     dueEmpty(x, 3);
   }
 
@@ -543,8 +547,10 @@ public final class ChangeBoundaryTest extends Checks {
     hull(x, 0, 15, -15);
     due("30 and -30 are not", () -> x.combine(2, 0, 0, 1), 0);
     dueRows(x, 1, 4, 1, 30, -30);
-    refused("31", LARGE, y -> { hull(y, 0, 16, 0); hull(y, 1, 15, 0); }, y -> y.combine(2, 0, 1, 2));
-    refused("-31", LARGE, y -> { hull(y, 0, 0, -16); hull(y, 1, 0, -15); }, y -> y.combine(2, 0, 1, 2));
+    Steps above = y -> { hull(y, 0, 16, 0); hull(y, 1, 15, 0); };
+    refused("31", LARGE, above, y -> y.combine(2, 0, 1, 2));
+    Steps below = y -> { hull(y, 0, 0, -16); hull(y, 1, 0, -15); };
+    refused("-31", LARGE, below, y -> y.combine(2, 0, 1, 2));
   }
 
   private static void combineTooRich() {
@@ -582,7 +588,7 @@ public final class ChangeBoundaryTest extends Checks {
 
   private static void mapNothing() {
     about("promise 8: an empty set, both ways");
-    int[][] maps = {{1, 0, 0, 1, 0, 0}, {0, 0, 0, 0, 0, 0}, {0, 0, 0, 0, 5, 5}, {30, 29, 28, 27, 1, 2}};
+    int[][] maps = {{1, 0, 0, 1, 0, 0}, {0, 0, 0, 0, 0, 0}, {0, 0, 0, 0, 5, 5}, {30, 29, 28, 7, 1, 2}};
     for (int[] six : maps) {
       ConvexDesk x = new ConvexDesk();
       someSets(x);

@@ -6,8 +6,8 @@ import java.util.List;
 import java.util.Random;
 
 /**
- * Runs of chosen calls, each answered by ConvexDesk and by a slow model that follows the document by
- * trying all pairs of rows. After each change the counts of the slot's rows are compared, often the
+ * Runs of chosen calls, each answered by ConvexDesk and by a slow model that follows the document
+ * by trying all pairs of rows. After each change the counts of the slot's rows are compared, often the
  * rows too, and at a run's end those of all slots. No object is used for more than 512 calls.
  */
 public final class OracleTest {

@@ -157,17 +157,17 @@ public final class TermsBoundaryTest extends Checks {
     largeHull("b is 31", -15, 1, 16, 0);
     dueHull(0, new int[] {15, 1, -30}, -15, 0, 15, 1);
     largeHull("b is -31", -15, 0, 16, 1);
-    dueLineThrough("c is 30", 1, 30, 0, -15);
+    dueLineThrough("c is 30", 30, 0, -15);
     refusedLineThrough("c is 32", 0, -16);
-    dueLineThrough("c is -30", 1, -30, 0, 15);
+    dueLineThrough("c is -30", -30, 0, 15);
     refusedLineThrough("c is -32", 0, 16);
   }
 
   /** The line has direction (2, -3): the c of 3 x + 2 y + c = 0 can be larger than its point. */
-  private static void dueLineThrough(String what, int dimension, int c, int atX, int atY) {
+  private static void dueLineThrough(String what, int c, int atX, int atY) {
     ConvexDesk x = new ConvexDesk();
     hull(x, 0, atX, atY);
-    due(what, () -> add(x, 0, true, 0, 2, -3), dimension);
+    due(what, () -> add(x, 0, true, 0, 2, -3), 1);
     dueRows(x, 0, 0, c, 3, 2);
   }
 
@@ -409,9 +409,9 @@ public final class TermsBoundaryTest extends Checks {
     refused("say: argument, state", ARGUMENT, x -> tellMany(x, 6), x -> x.say(-31));
     refused("constrain: index, argument", INDEX, x -> tell(x, 1, 2), x -> x.constrain(-1, true));
     refused("generate: index, argument", INDEX, x -> tell(x, 0, 0, 0), x -> x.generate(-1, false));
-    refused("generate: argument, not yet", ARGUMENT, x -> tell(x, 0, 0, 0), x -> x.generate(0, true));
-    refused("generate: argument, not yet", ARGUMENT, x -> tell(x, -1, 1, 0), x -> x.generate(0, true));
-    refused("generate: argument, not yet", ARGUMENT, x -> tell(x, 0, 1), x -> x.generate(0, false));
+    refused("generate: argument, empty", ARGUMENT, x -> tell(x, 0, 0, 0), x -> x.generate(0, true));
+    refused("generate: argument, empty", ARGUMENT, x -> tell(x, -1, 1, 0), x -> x.generate(0, true));
+    refused("generate: argument, empty", ARGUMENT, x -> tell(x, 0, 1), x -> x.generate(0, false));
     refused("combine: index, argument", INDEX, x -> { }, x -> x.combine(3, 0, 0, -1));
     refused("combine: index, argument", INDEX, x -> { }, x -> x.combine(-1, 4, 0, 0));
     refused("combine: index, argument", INDEX, x -> { }, x -> x.combine(-1, 0, 4, 0));
